@@ -716,15 +716,18 @@ public final class BreakLearner {
                 Arrays.fill(good, 0, index.known, 0);
                 Arrays.fill(bad, 0, index.known, 0);
                 for (int length = 1; length <= SIGNS_MOST; length++) {
-                    countWords(stock, mask, level, length);
-                    keepPatterns(stock, level, length);
-                    raiseDigits(stock, level, length);
+                    if (countWords(stock, mask, level, length)) {
+                        keepPatterns(stock, level, length);
+                        raiseDigits(stock, level, length);
+                    }
                 }
             }
         }
 
-        private void countWords(Stock stock, int mask, int level, int length) {
+        /** Whether any pattern does good: if none does, no rule keeps one. */
+        private boolean countWords(Stock stock, int mask, int level, int length) {
             boolean odd = level % 2 == 1;
+            boolean anyGood = false;
             for (int word = 0; word < stock.words; word++) {
                 if ((mask >> word & 1) == 0) {
                     continue;
@@ -735,11 +738,13 @@ public final class BreakLearner {
                     int at = word * PLACES_MOST + place;
                     if (odd ? wanted && !broken : broken && !wanted) {
                         countPlace(good, at, length);
+                        anyGood = true;
                     } else if (odd ? !wanted : broken) {
                         countPlace(bad, at, length);
                     }
                 }
             }
+            return anyGood;
         }
 
         private void countPlace(int[] counts, int at, int length) {

@@ -19,9 +19,12 @@ public final class BreakLearner {
     private static final int H_MOST = 9;
     private static final int DOINGS_MOST = 14;
     private static final int SEEN_MOST = 6;
+    private static final int SEEN_LETTERS = 3;
+    private static final int SEEN_WORDS = 125;
     private static final int JUDGED_MOST = 3;
     private static final int SHELVES = 2;
     private static final int DRAWN_MOST = 20;
+    private static final int DRAWN_LETTERS = 4;
     private static final int TENTHS = 10;
 
     private static final int STOP = 6;
@@ -375,12 +378,12 @@ public final class BreakLearner {
 
     private int digitsOfDrawn(int bits) {
         int letters = 0;
-        for (int i = 0; i < 4; i++) {
+        for (int i = 0; i < DRAWN_LETTERS; i++) {
             letters = letters * 10 + (bits >> 3 * i) % 5 + 1;
         }
-        index.spell(letters, 4);
+        index.spell(letters, DRAWN_LETTERS);
         int sum = 0;
-        for (int place = 0; place < 3; place++) {
+        for (int place = 0; place < DRAWN_LETTERS - 1; place++) {
             sum += learning.digitOfSpelt(place);
         }
         return sum;
@@ -1061,7 +1064,7 @@ public final class BreakLearner {
 
         int countWords(Learning learning) {
             int words = 0;
-            for (int i = 0; i < 125; i++) {
+            for (int i = 0; i < SEEN_WORDS; i++) {
                 if (agrees(learning, lettersOf(i))) {
                     words++;
                 }
@@ -1070,7 +1073,7 @@ public final class BreakLearner {
         }
 
         int firstWord(Learning learning) {
-            for (int i = 0; i < 125; i++) {
+            for (int i = 0; i < SEEN_WORDS; i++) {
                 if (agrees(learning, lettersOf(i))) {
                     return lettersOf(i);
                 }
@@ -1083,7 +1086,7 @@ public final class BreakLearner {
         }
 
         private boolean agrees(Learning learning, int letters) {
-            learning.index.spell(letters, 3);
+            learning.index.spell(letters, SEEN_LETTERS);
             for (int i = 0; i < count; i++) {
                 if (learning.digitOfSpelt(places[i]) == digits[i] != hads[i]) {
                     return false;

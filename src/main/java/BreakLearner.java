@@ -774,7 +774,7 @@ public final class BreakLearner {
             switch (rule) {
                 case 0: return doesGood - doesHarm >= h;
                 case 1: return doesHarm == 0 && doesGood >= h;
-                default: return doesGood >= h * doesHarm && doesGood >= h;
+                default: return doesGood >= h * doesHarm + h;
             }
         }
 

@@ -27,7 +27,7 @@ public final class ModelTest {
             if (good < 1) return false;
             if (rule == 0) return good - bad >= h;
             if (rule == 1) return bad == 0 && good >= h;
-            return good >= h * bad && good >= h;
+            return good >= h * (bad + 1);
         }
     }
 

@@ -329,10 +329,9 @@ public final class PromiseTest {
         due("0: good less bad is 1", x.rule(1, 0, 1), 3);
         due("0: b. has good 2", x.rule(1, 0, 2), 4);
         due("0: good less bad is less", x.rule(1, 0, 3), 2);
-        due("2: good is bad", x.rule(1, 2, 1), 3);
-        // Read as: good is h times bad or more, and h or more. (h times bad plus h would keep b. alone: 4.)
-        due("2: good is twice bad, and 2", x.rule(1, 2, 2), 3);
-        due("2: good is less than h", x.rule(1, 2, 3), 2);
+        due("2: good is 1 times bad and 1", x.rule(1, 2, 1), 3);
+        due("2: good is less than 2 times bad and 2; b. has good 2, bad 0", x.rule(1, 2, 2), 4);
+        due("2: good is less than 3", x.rule(1, 2, 3), 2);
         due("a level that is not learnt", x.rule(2, 1, 1), 2);
         due("doings", x.about(8), 11);
         due("the same again is a doing, too", x.rule(2, 1, 1), 2);
@@ -344,10 +343,43 @@ public final class PromiseTest {
         due("refused changes nothing", x.about(8), 12);
         due("refused changes nothing", x.level(1, 0), 2);
         due("the greatest h", x.rule(4, 2, 9), 2);
-        BreakLearner y = learnt("Wa-bWab", 1);
-        due("0: good is bad", y.about(4), 0);
+        ruleTwo();
+    }
+
+    /** RULE 2 asks for h times BAD, and h, as one sum. */
+    private static void ruleTwo() {
+        BreakLearner x = learnt("Wa-bWab", 1);
+        due("0: good is bad", x.about(4), 0);
+        x.rule(1, 2, 1);
+        due("2: good is bad", x.about(4), 0);
+        BreakLearner y = learnt("Wa-bWa-bWa-bWacWad", 1);
         y.rule(1, 2, 1);
-        due("2: good is bad", y.about(4), 2);
+        due("a, 1: good 3, bad 2, 1 times 2 and 1", y.pattern(1, 1), 1);
+        y.rule(1, 2, 2);
+        y.drop(4);
+        due("a, 1: good 3, bad 1, less than 2 times 1 and 2", y.pattern(1, 1), 0);
+        y.add(12, 1);
+        due("a, 1: good 4, bad 1, 2 times 1 and 2", y.pattern(1, 1), 1);
+        due("b, 0: good 4, bad 0", y.pattern(2, 0), 1);
+        y.rule(1, 2, 4);
+        due("b, 0: good 4, bad 0, 4 times 0 and 4", y.pattern(2, 0), 1);
+        due("a, 1: good 4, bad 1, 4 times bad, without the 4 more", y.pattern(1, 1), 0);
+        y.rule(1, 2, 5);
+        due("b, 0: good 4, bad 0, less than 5", y.pattern(2, 0), 0);
+        forbidsByRuleTwo();
+    }
+
+    /** Level 1 breaks a from what is behind it: right three times, wrong twice; level 2 has GOOD and BAD the other way. */
+    private static void forbidsByRuleTwo() {
+        BreakLearner x = learnt("Wa-bWa-bWa-cWacWac", 1);
+        due("a, 1 and b, 0", x.about(4), 2);
+        x.study();
+        due("0: c, 0 has good 2, bad 1", x.pattern(3, 0), 2);
+        x.rule(2, 2, 1);
+        due("2: good is 1 times bad and 1", x.pattern(3, 0), 2);
+        x.rule(2, 2, 2);
+        due("2: good is less than 2 times bad and 2", x.pattern(3, 0), 0);
+        due("none is", x.level(2, 2), 0);
     }
 
     private static void study() {
@@ -361,6 +393,7 @@ public final class PromiseTest {
         due("doings", x.about(8), 4);
         shorterAhead();
         aboveAnother();
+        byRuleTwo();
         due("no words", new BreakLearner().study(), 0);
     }
 
@@ -376,21 +409,31 @@ public final class PromiseTest {
 
     /** A pattern that a later level keeps, too, is of that level then. */
     private static void aboveAnother() {
-        BreakLearner x = listed("Wa-bWa-bWacWad");
-        x.rule(1, 2, 1);
-        x.rule(2, 2, 1);
-        due("a, 1 (good 2, bad 2) and b, 0", x.study(), 2);
-        due("level", x.pattern(1, 1), 1);
-        due("a, 1 again (good 2, bad 2), c, 0 and d, 0", x.study(), 3);
-        due("it is of level 2 then", x.pattern(1, 1), 2);
+        BreakLearner x = listed("Wa-aaaWa-a-b");
+        due("a, 1 (good 3, bad 2) and b, 0", x.study(), 2);
+        due("level", x.pattern(2, 0), 1);
+        due("all are broken", x.about(2), 3);
+        due("aa, 2 (good 2, bad 1) and a., 0", x.study(), 2);
+        due("what aa forbids wrongly", x.digit(1, 1), 2);
+        due("right", x.about(2), 4);
+        due("b, 0 again (good 1, bad 0)", x.study(), 1);
+        due("it is of level 3 then", x.pattern(2, 0), 3);
         due("and no more of level 1", x.level(1, 2), 1);
-        due("b, 0 stays", x.pattern(2, 0), 1);
-        due("digit", x.digit(0, 0), 2);
+        due("a, 1 stays", x.pattern(1, 1), 1);
+        due("digit", x.digit(1, 1), 3);
+        due("patterns", x.about(4), 4);
+        due("all are right", x.about(2), 5);
+    }
+
+    /** b with gap 1 has good 1, bad 0; e with gap 0 has good 1, bad 1, and would need 2. */
+    private static void byRuleTwo() {
+        BreakLearner x = new BreakLearner();
+        x.rule(1, 2, 1);
+        x.add(255, 1);
+        due("b, 1 alone", x.study(), 1);
+        due("b, 1", x.pattern(2, 1), 1);
+        due("e, 0", x.pattern(5, 0), 0);
         due("right", x.about(2), 2);
-        due("b, 0 breaks again", x.study(), 1);
-        due("digit", x.digit(0, 0), 3);
-        due("none is left", x.level(1, 2), 0);
-        due("all are right", x.about(2), 4);
     }
 
     private static void undo() {

@@ -1,6 +1,9 @@
 import java.math.BigInteger;
 import java.util.ArrayList;
+import java.util.Comparator;
 import java.util.List;
+import java.util.TreeMap;
+import java.util.TreeSet;
 import java.util.function.Supplier;
 import java.util.function.ToLongFunction;
 
@@ -448,6 +451,9 @@ public final class BoundaryTest {
         due("a with gap 0", x.pattern(1, 0), 1);
         due("a with gap 1", x.pattern(1, 1), 1);
         due("patterns", x.about(4), 2);
+        BreakLearner apart = listed("Wa-bWc-dWe-a");
+        apart.rule(1, 0, 2);
+        due("each that lies in a word has good 1, and what would stick out is none", apart.study(), 0);
     }
 
     // ---- terms: levels and rules
@@ -723,6 +729,10 @@ public final class BoundaryTest {
         asIfLearntAnew("ruled back", x, THREE, 2);
         x.list();
         asIfLearntAnew("listed", x, THREE, 0);
+        BreakLearner y = learnt("Wa-bWab", 1);
+        asIfLearntAnew("the last one does harm", y, "Wa-bWab", 1);
+        y.drop(1);
+        asIfLearntAnew("the last one is dropped", y, "Wa-b", 1);
     }
 
     // ---- terms: the tree, judged, shares
@@ -733,6 +743,7 @@ public final class BoundaryTest {
         due("no base", x.base(0), NONE);
         x.study();
         due("the empty one and a", x.about(6), 2);
+        due("the empty one and d, with gap 0 alone", learnt("Wd-da", 1).about(6), 2);
         due("its base", x.base(0), 0);
         x.turn(0, 0);
         due("no pattern again", x.about(6), 0);
@@ -803,6 +814,58 @@ public final class BoundaryTest {
         due("1 more than the greatest slot", x.about(7), 11);
     }
 
+    /** Six long words, by which more patterns are kept than by most: a row of slots must not end ahead of them. */
+    private static BreakLearner greatTree() {
+        BreakLearner x = new BreakLearner();
+        int[] letters = {331115, 314442, 533241, 414253, 322244, 441352};
+        int[] breaks = {20, 21, 21, 18, 26, 9};
+        for (int i = 0; i < 6; i++) x.add(letters[i], breaks[i]);
+        x.rule(1, 2, 3);
+        x.rule(3, 1, 1);
+        for (int i = 0; i < 4; i++) x.study();
+        return x;
+    }
+
+    private static TreeSet<String> nodesOfGreatTree() {
+        TreeSet<String> nodes = new TreeSet<>(Comparator.comparing(String::length).thenComparing(s -> s));
+        for (int string = 1; string <= 666; string++) {
+            if (!isString(string)) continue;
+            String told = Integer.toString(string);
+            BreakLearner x = greatTree();
+            for (int gap = 0; gap <= told.length(); gap++) {
+                if (x.pattern(string, gap) == 0) continue;
+                for (int signs = 0; signs <= told.length(); signs++) nodes.add(told.substring(0, signs));
+            }
+        }
+        return nodes;
+    }
+
+    private static void manySlots() {
+        TreeSet<String> nodes = nodesOfGreatTree();
+        TreeMap<Integer, String> slots = new TreeMap<>();
+        due("nodes", greatTree().about(6), nodes.size());
+        for (String node : nodes) {
+            List<Integer> figures = new ArrayList<>();
+            for (int f = 1; f <= 6; f++) if (nodes.contains(node + f)) figures.add(f);
+            int base = 0;
+            while (isTaken(slots, base, figures)) base++;
+            for (int f : figures) slots.put(base + f, node + f);
+            int string = node.isEmpty() ? 0 : Integer.parseInt(node);
+            due("base(" + string + ")", greatTree().base(string), figures.isEmpty() ? NONE : base);
+        }
+        BreakLearner x = greatTree();
+        for (int i = 0; i <= 100; i++) {
+            due("slot " + i, x.slot(i), slots.containsKey(i) ? Integer.parseInt(slots.get(i)) : NONE);
+        }
+        due("1 more than the greatest slot", x.about(7), slots.lastKey() + 1);
+        due("more than sixty slots", slots.lastKey() > 60 ? 1 : 0, 1);
+    }
+
+    private static boolean isTaken(TreeMap<Integer, String> slots, int base, List<Integer> figures) {
+        for (int f : figures) if (slots.containsKey(base + f)) return true;
+        return false;
+    }
+
     private static void earnsLessOrMore() {
         BreakLearner x = learnt("Wa-bWa-cWa-dWae", 1);
         due("three are right, without a all four", x.earns(1), -1);
@@ -824,6 +887,7 @@ public final class BoundaryTest {
         }
         due("it has a break then: none is right", listed("Wab").judge(2, 1000060001L), 1);
         due("turned twice", listed("Wab").judge(3, 100001000060001L), NONE);
+        due("learnt anew: a is a pattern", learnt("Wab", 1).judge(3, 100007100160001L), NONE);
         judgedOne(thirtyPlaces(), 15400, true);
         judgedOne(thirtyPlaces(), 16000, false);
         judgedOne(new BreakLearner(), 10000, false);
@@ -1740,6 +1804,7 @@ public final class BoundaryTest {
         test("Terms", "the empty one, too, if there are any", BoundaryTest::emptyNode);
         test("Terms", "NODES are all beginnings of STRINGS of PATTERNS", BoundaryTest::allBeginnings);
         test("Terms", "gets the least BASE b (0 and on)", BoundaryTest::leastBase);
+        test("Terms", "for which SLOTS b and f, f the figure of each such sign, are all free", BoundaryTest::manySlots);
         test("Terms", "how many PLACES are RIGHT, less how many were", BoundaryTest::earnsLessOrMore);
         test("Terms", "1, a WORD, a PLACE, 00: TURNED", BoundaryTest::judgedTurned);
         test("Terms", "2, a LEVEL, a RULE, 0, h: RULED", BoundaryTest::judgedRuled);

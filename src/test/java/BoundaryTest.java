@@ -372,15 +372,14 @@ public final class BoundaryTest {
     }
 
     private static void strings() {
-        BreakLearner x = learnt(THREE, 2);
         int strings = 0;
         for (int told = -700; told <= 7000; told++) {
             boolean is = isString(told);
             if (is) strings++;
-            due("pattern(" + told + ", 0) is BAD", x.pattern(told, 0) == BAD ? 1 : 0, is ? 0 : 1);
+            due("pattern(" + told + ", 0) is BAD", learnt(THREE, 2).pattern(told, 0) == BAD ? 1 : 0, is ? 0 : 1);
         }
         due("5, and 36 less 1, and 6 times 5 times 6", strings, 220);
-        for (int told : new int[] {LEAST, MOST, 11111, 666666}) due("string " + told, x.pattern(told, 0), BAD);
+        for (int told : new int[] {LEAST, MOST, 11111, 666666}) due("string", learnt(THREE, 2).pattern(told, 0), BAD);
     }
 
     private static void oneLetterAtLeast() {
@@ -632,25 +631,29 @@ public final class BoundaryTest {
         due("studied", firstForgotten(studied).about(3), 1);
     }
 
+    private static final List<ToLongFunction<BreakLearner>> EIGHTEEN_DOINGS = List.of(
+            x -> x.turn(0, 1), x -> x.drop(3), x -> x.study(), x -> x.rule(1, 2, 3), x -> x.add(54321, 9),
+            x -> x.drop(0), x -> x.rule(1, 1, 7), x -> x.turn(2, 3), x -> x.rule(4, 2, 9), x -> x.add(12, 1),
+            x -> x.study(), x -> x.rule(4, 0, 4), x -> x.drop(1), x -> x.add(555555, 31), x -> x.turn(0, 0),
+            x -> x.rule(2, 1, 1), x -> x.study(), x -> x.add(31, 0));
+
+    private static BreakLearner done(int doings) {
+        BreakLearner x = listed("WabcWa-bWcdeaWbb");
+        for (int i = 0; i < doings; i++) {
+            due("doing " + i + " can be", EIGHTEEN_DOINGS.get(i).applyAsLong(x) >= 0 ? 1 : 0, 1);
+        }
+        return x;
+    }
+
     /** More than can be undone, of all kinds: the last fourteen go back one by one. */
     private static void theLastFourteenAreUndone() {
-        List<List<Long>> before = new ArrayList<>();
-        BreakLearner x = listed("WabcWa-bWcdeaWbb");
-        List<ToLongFunction<BreakLearner>> doings = List.of(
-                y -> y.turn(0, 1), y -> y.drop(3), y -> y.study(), y -> y.rule(1, 2, 3), y -> y.add(54321, 9),
-                y -> y.drop(0), y -> y.rule(1, 1, 7), y -> y.turn(2, 3), y -> y.rule(4, 2, 9), y -> y.add(12, 1),
-                y -> y.study(), y -> y.rule(4, 0, 4), y -> y.drop(1), y -> y.add(555555, 31), y -> y.turn(0, 0),
-                y -> y.rule(2, 1, 1), y -> y.study(), y -> y.add(31, 0));
-        for (ToLongFunction<BreakLearner> doing : doings) {
-            before.add(wordsAndRules(x));
-            due("it can be done", doing.applyAsLong(x) >= 0 ? 1 : 0, 1);
-        }
+        BreakLearner x = done(18);
         for (int left = 13; left >= 0; left--) {
             due("undone", x.undo(), left);
-            due("as it was", wordsAndRules(x).equals(before.get(left + 4)) ? 1 : 0, 1);
+            due("as it was", wordsAndRules(x).equals(wordsAndRules(done(left + 4))) ? 1 : 0, 1);
         }
         due("four are forgotten", x.undo(), LATE);
-        due("as it was", wordsAndRules(x).equals(before.get(4)) ? 1 : 0, 1);
+        due("as it was", wordsAndRules(x).equals(wordsAndRules(done(4))) ? 1 : 0, 1);
     }
 
     private static List<Long> wordsAndRules(BreakLearner x) {
@@ -894,8 +897,8 @@ public final class BoundaryTest {
     }
 
     private static void judgedRuled() {
-        BreakLearner x = new BreakLearner();
         for (int level = 0; level <= 9; level++) {
+            BreakLearner x = new BreakLearner();
             for (int rule = 0; rule <= 9; rule++) {
                 for (int h = 0; h <= 9; h++) {
                     boolean so = level >= 1 && level <= 4 && rule <= 2 && h >= 1;
@@ -1560,12 +1563,11 @@ public final class BoundaryTest {
     }
 
     private static void promise17() {
-        BreakLearner x = learnt(THREE, 2);
         int told = 0;
         for (int string = -700; string <= 7000; string++) {
             boolean is = string == 0 || Integer.toString(string).matches("[1-6]{1,3}");
             if (is) told++;
-            due("base(" + string + ") is BAD", x.base(string) == BAD ? 1 : 0, is ? 0 : 1);
+            due("base(" + string + ") is BAD", learnt(THREE, 2).base(string) == BAD ? 1 : 0, is ? 0 : 1);
         }
         due("1, and 6, and 36, and 216", told, 259);
         for (int string : new int[] {-1, 7, 10, 1111, LEAST, MOST}) {
@@ -1610,9 +1612,8 @@ public final class BoundaryTest {
     }
 
     private static void promise20() {
-        BreakLearner x = learnt(THREE, 2);
         for (int told = -700; told <= 7000; told++) {
-            due("earns(" + told + ") is BAD", x.earns(told) == BAD ? 1 : 0, isString(told) ? 0 : 1);
+            due("earns(" + told + ") is BAD", learnt(THREE, 2).earns(told) == BAD ? 1 : 0, isString(told) ? 0 : 1);
         }
         for (int string : new int[] {0, -1, 6, 66, 161, LEAST, MOST}) {
             refused(BoundaryTest::busy, "earns(" + string + ")", y -> y.earns(string), BAD);

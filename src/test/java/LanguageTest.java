@@ -28,6 +28,8 @@ public final class LanguageTest {
     private static final String[] RULED_OUT = {
         "throw", "throws", "try", "catch", "synchronized", "assert", "Random", "System\\.(?!arraycopy)", "package",
         "->", "::", "double", "float", "volatile", "transient", "Object", "Thread"};
+    private static final Set<String> LIBRARY = Set.of(
+            "Arrays.fill", "Integer.bitCount", "Math.abs", "Math.max", "Math.min", "System.arraycopy");
 
     private static int wrong = 0;
 
@@ -59,6 +61,10 @@ public final class LanguageTest {
             constants.add(f.getName());
             check(f.toString().startsWith("public static final int "), "visible: " + f);
         }
+        fields(BreakLearner.class);
+        for (Method m : BreakLearner.class.getDeclaredMethods()) {
+            if (Modifier.isPrivate(m.getModifiers())) method(m, names);
+        }
         check(constants.equals(new TreeSet<>(Arrays.asList(CONSTANTS))), "the constants are " + constants);
         Constructor<?>[] made = BreakLearner.class.getDeclaredConstructors();
         check(made.length == 1 && Modifier.isPublic(made[0].getModifiers()), "constructors");
@@ -69,16 +75,22 @@ public final class LanguageTest {
 
     private static void inside(Class<?> c, Set<String> publicNames) {
         check(Modifier.isStatic(c.getModifiers()), "not static: " + c);
+        fields(c);
+        for (Method m : c.getDeclaredMethods()) method(m, publicNames);
+    }
+
+    private static void fields(Class<?> c) {
         int fields = 0;
         for (Field f : c.getDeclaredFields()) {
             if (!Modifier.isStatic(f.getModifiers())) fields++;
             else check(Modifier.isFinal(f.getModifiers()), "static, not final: " + f);
         }
         check(fields <= 20, "too many fields: " + c);
-        for (Method m : c.getDeclaredMethods()) {
-            check(!publicNames.contains(m.getName()), "the name of a public method: " + m);
-            check(m.getParameterCount() <= 7, "too many parameters: " + m);
-        }
+    }
+
+    private static void method(Method m, Set<String> publicNames) {
+        check(!publicNames.contains(m.getName()), "the name of a public method: " + m);
+        check(m.getParameterCount() <= 7, "too many parameters: " + m);
     }
 
     private static void source() throws IOException {
@@ -90,6 +102,8 @@ public final class LanguageTest {
         }
         Matcher imports = Pattern.compile("import ([^;]*);").matcher(code);
         while (imports.find()) check(imports.group(1).equals("java.util.Arrays"), "import " + imports.group(1));
+        Matcher library = Pattern.compile("\\b(Arrays|Integer|Long|Math|System|String)\\.\\w+").matcher(code);
+        while (library.find()) check(LIBRARY.contains(library.group()), "library: " + library.group());
         check(source.chars().allMatch(c -> c == '\n' || c >= 32 && c < 127), "signs");
         methodLengths(code);
     }
